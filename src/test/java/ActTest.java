@@ -15,6 +15,7 @@ public final class ActTest {
         actsAreLimited();
         images();
         imageIsApart();
+        imageKeepsItsActs();
         CHECK.end();
     }
 
@@ -216,5 +217,21 @@ public final class ActTest {
             CHECK.row("undone", new int[] {g.undo(), g.zone(0, 3)}, i, 10 + i);
         }
         CHECK.row("its note", new int[] {g.count(15), g.fits(0, 0)}, 1, 0);
+    }
+
+    private static void imageKeepsItsActs() {
+        HeatGovernor g = Check.told("zone 20 10;");
+        g.minutes(2);
+        g.load(0, 5);
+        g.image();
+        g.undo();
+        g.undo();
+        g.load(0, 7);
+        g.foresee(1);
+        g.minutes(9);
+        g.restore();
+        CHECK.row("as it was", new int[] {g.count(14), g.count(5), g.zone(0, 3), g.count(6)}, 2, 2, 5, 0);
+        CHECK.row("undone", new int[] {g.undo(), g.count(5), g.zone(0, 3), g.count(6)}, 1, 2, 20, 0);
+        CHECK.row("undone, too", new int[] {g.undo(), g.count(5), g.zone(0, 3), g.undo()}, 0, 0, 20, -1);
     }
 }

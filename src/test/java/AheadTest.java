@@ -9,6 +9,7 @@ public final class AheadTest {
     public static void main(String[] args) {
         ahead();
         first();
+        twoHundredMinutes();
         needed();
         again();
         peaks();
@@ -50,6 +51,28 @@ public final class AheadTest {
         HeatGovernor late = Check.told("zone 1 50;zone 0 50;wall 0 1 50;trip 1 critical 249 0;trip 0 hot 200 0;");
         CHECK.same("none in 200", late.count(9), -1);
         CHECK.same("no zone at all", new HeatGovernor().count(10), -1);
+    }
+
+    /** FIRST and NEEDED in 200 MINUTES, none in 201. */
+    private static void twoHundredMinutes() {
+        // Five zones share what comes to the first one, and the last one rises slowly.
+        String text = "zone 6 50;zone 0 50;zone 0 50;zone 0 50;zone 0 50;wall 0 1 2;wall 1 2 2;wall 2 3 2;wall 3 4 2;"
+                + "device fan 4 1 1;trip 4 critical 276 0;";
+        HeatGovernor g = Check.told(text);
+        int until = 0;
+        while (g.ahead(4, 0, 2) == 0 && until < 400) {
+            until = g.minutes(1);
+        }
+        CHECK.row("shut late", new int[] {g.zone(4, 7), until > 201 ? 1 : 0}, 1, 1);
+        HeatGovernor again = Check.told(text);
+        for (int i = 0; i < until - 201; i++) {
+            again.minutes(1);
+        }
+        CHECK.row("201", new int[] {again.count(9), again.count(10), again.count(11)}, -1, -1, -1);
+        again.minutes(1);
+        CHECK.row("200", new int[] {again.count(9), again.count(10), again.count(11)}, 200, 4, 0);
+        again.minutes(1);
+        CHECK.row("199", new int[] {again.count(9), again.count(10), again.count(11)}, 199, 4, 0);
     }
 
     private static void needed() {
@@ -96,10 +119,37 @@ public final class AheadTest {
                 200, 200, -1);
         readings.minutes(2);
         CHECK.same("all three alike", readings.count(12), 1);
+        // HEAT 240 from the first minute on; TEMPS 210, 217, 222, 226, 229, 231, 233, 234, 235, 236, 237, 237.
+        HeatGovernor temps = Check.told("zone 40 1 slow 4;");
+        temps.minutes(10);
+        CHECK.row("TEMP still moves", new int[] {temps.zone(0, 1), temps.count(12)}, 236, -1);
+        temps.minutes(1);
+        CHECK.row("TEMP stays", new int[] {temps.zone(0, 1), temps.count(12)}, 237, 1);
+        HeatGovernor slow = Check.told("zone 2 1 slow 4;");
+        slow.minutes(1);
+        CHECK.row("slow: the latest reading alone", new int[] {slow.zone(0, 0), slow.zone(0, 1), slow.count(12)}, 202, 200, 1);
+        longRounds();
         HeatGovernor wants = Check.told("zone 0 50;trip 0 step 200 0;device fan 0 9 1;bind 0 0 1;");
         CHECK.same("it goes ON", wants.count(12), -1);
         wants.minutes(1);
         CHECK.same("ON stays", wants.count(12), 1);
+    }
+
+    private static void longRounds() {
+        String round = "zone 57 38 slow 4;trip 0 step 239 34;device fan 0 6 20;bind 0 0 1;";
+        HeatGovernor g = Check.told(round);
+        for (int i = 0; i < 8; i++) {
+            g.minutes(60);
+        }
+        CHECK.row("a round of 200", new int[] {g.count(12), g.ahead(0, 200, 0), g.ahead(0, 200, 1)},
+                200, g.zone(0, 0), g.zone(0, 1));
+        String three = "zone 28 19 slow 2;trip 0 step 250 38;device valve 0 9 9;bind 0 0 1;";
+        String sixtySeven = "zone 46 31 median 3;trip 1 step 231 24;device fan 1 9 28;bind 1 1 1;";
+        HeatGovernor both = Check.told(three + sixtySeven);
+        for (int i = 0; i < 8; i++) {
+            both.minutes(60);
+        }
+        CHECK.same("rounds of 3 and 67 are one of 201", both.count(12), -1);
     }
 
     private static void peaks() {
@@ -120,11 +170,13 @@ public final class AheadTest {
         HeatGovernor beside = Check.told("zone 99 50;zone 0 50;wall 0 1 1;trip 1 critical 220 0;");
         CHECK.same("not even 0", beside.bears(1, 60, 1), -1);
         CHECK.same("the other one", beside.bears(0, 60, 1), 99);
+        CHECK.same("nothing but 0", Check.told("zone 5 50;trip 0 critical 201 0;").bears(0, 60, 1), 0);
         g.minutes(7);
         CHECK.same("shut now", g.bears(0, 1, 1), -1);
         g.minutes(1);
         g.start(0);
-        CHECK.row("3 makes 299, not 4", new int[] {g.zone(0, 0), g.bears(0, 1, 1)}, 296, 12);
+        // 296 and 12 less 9 are 299.
+        CHECK.row("started", new int[] {g.zone(0, 0), g.bears(0, 1, 1)}, 296, 12);
         CHECK.illegal("bears(0, 0, 1)", () -> g.bears(0, 0, 1));
         CHECK.illegal("bears(0, 61, 1)", () -> g.bears(0, 61, 1));
         CHECK.noSuch("bears(0, 61, 2)", () -> g.bears(0, 61, 2));
@@ -151,7 +203,12 @@ public final class AheadTest {
 
     /** Lives the years through by acts. */
     private static void years() {
-        String text = "zone 30 20;zone 10 50;zone 0 9 mean 2;wall 0 2 5;trip 0 critical 330 0;trip 1 hot 240 0;trip 2 hot 205 1;";
+        livedYears("zone 30 20;", 1);
+        livedYears("zone 30 20;zone 10 50;zone 0 9 mean 2;wall 0 2 5;trip 0 critical 330 0;trip 1 hot 240 0;trip 2 hot 205 1;", 3);
+        oddYears();
+    }
+
+    private static void livedYears(String text, int zones) {
         for (int first = -20; first < 20; first++) {
             HeatGovernor g = Check.told(text);
             g.minutes(3);
@@ -163,15 +220,20 @@ public final class AheadTest {
                 seed = seed * 1103515245 + 12345;
                 if ((seed >>> 16 & 32767) % 4 == 0) {
                     seed = seed * 1103515245 + 12345;
-                    int zone = (seed >>> 16 & 32767) % 3;
+                    int zone = (seed >>> 16 & 32767) % zones;
                     seed = seed * 1103515245 + 12345;
                     g.load(zone, (seed >>> 16 & 32767) % 100);
                 }
                 g.minutes(1);
-                greatest = Math.max(greatest, Math.max(g.zone(0, 0), Math.max(g.zone(1, 0), g.zone(2, 0))));
+                for (int z = 0; z < zones; z++) {
+                    greatest = Math.max(greatest, g.zone(z, 0));
+                }
             }
             CHECK.row("years of " + first, due, greatest, g.count(7), g.count(13) - rows);
         }
+    }
+
+    private static void oddYears() {
         HeatGovernor none = new HeatGovernor();
         CHECK.row("without zones", new int[] {none.years(7, 60, 0), none.years(7, 60, 1), none.years(7, 60, 2)}, 0, 0, 0);
         HeatGovernor swings = Check.told(SWINGS);
@@ -180,7 +242,7 @@ public final class AheadTest {
         HeatGovernor shut = Check.told(CRITICAL);
         shut.minutes(7);
         CHECK.row("no years, shut now", new int[] {shut.years(1, 0, 0), shut.years(1, 0, 1)}, 0, 1);
-        // Trips at 200 to 203 go ON and OFF: more rows than THE LOG holds.
+        // Nine trips that go ON or OFF in each minute but the first one: more rows than THE LOG holds.
         StringBuilder many = new StringBuilder("zone 30 50;trip 0 step 230 0;device valve 0 9 20;bind 0 0 1;");
         many.append("trip 0 hot 235 0;".repeat(9));
         HeatGovernor rows = Check.told(many.toString());

@@ -18,6 +18,7 @@ public final class MinuteTest {
         margins();
         logOfOneMinute();
         logIsLimited();
+        asMuchAsMayBe();
         wrongInputs();
         CHECK.end();
     }
@@ -80,6 +81,9 @@ public final class MinuteTest {
         filter("slow 1", 220, 238, 255, 270, 283, 295);
         filter("slow 2", 210, 224, 239, 254, 268, 281);
         filter("slow 4", 205, 213, 223, 234, 246, 258);
+        HeatGovernor beside = Check.told("zone 99 50;zone 20 10 mean 4;zone 99 50;zone 20 10 median 4;");
+        CHECK.row("each by its own readings", seen(beside, 6, () -> beside.zone(1, 1)), 205, 214, 228, 245, 261, 275);
+        CHECK.same("and the fourth", beside.zone(3, 1), 270);
         HeatGovernor falls = Check.told("zone 0 50 slow 3;device valve 0 1 10;");
         falls.hold(0, 1);
         falls.minutes(2);
@@ -286,6 +290,38 @@ public final class MinuteTest {
                 40, 59, 1, 20, 2);
         CHECK.same("crossings", g.trip(1, 5), 30);
         CHECK.noSuch("log(40)", () -> g.log(40, 0));
+    }
+
+    /** Five zones, ten trips, six devices, eight walls: every question goes through. */
+    private static void asMuchAsMayBe() {
+        StringBuilder text = new StringBuilder();
+        for (int i = 0; i < 5; i++) {
+            text.append("zone").append(20 * i).append(" 20slow;");
+        }
+        for (int i = 0; i < 10; i++) {
+            text.append("trip").append(i % 5).append(i < 5 ? "critical400 0;" : "share300 0;");
+        }
+        for (int i = 0; i < 6; i++) {
+            text.append("device fan").append(i % 5).append(" 9 1;");
+        }
+        for (int i = 0; i < 6; i++) {
+            text.append("bind9 ").append(i).append(" 2;");
+        }
+        for (int i = 0; i < 8; i++) {
+            text.append("wall").append(i % 5).append(" ").append((i + 1) % 5).append(" 9;");
+        }
+        HeatGovernor g = Check.told(text.toString());
+        CHECK.row("all told", new int[] {g.count(0), g.count(1), g.count(2), g.count(3), g.count(4)}, 5, 10, 6, 6, 8);
+        g.minutes(6);
+        CHECK.row("the last of each", new int[] {g.zone(4, 0) > 200 ? 1 : 0, g.trip(9, 4), g.trip(9, 7), g.device(5, 0)},
+                1, 1, 6, 0);
+        CHECK.same("shares come to what is asked", g.bind(9, 0, 1) + g.bind(9, 1, 1) + g.bind(9, 2, 1) + g.bind(9, 3, 1)
+                + g.bind(9, 4, 1) + g.bind(9, 5, 1), g.trip(9, 6));
+        for (int what = 7; what < 13; what++) {
+            CHECK.same("count(" + what + ") is -1 or more", g.count(what) >= -1 ? 1 : 0, 1);
+        }
+        CHECK.row("the last zone", new int[] {g.ahead(4, 0, 0), g.look(4, 1) > 0 ? 1 : 0, g.years(1, 0, 1)},
+                g.zone(4, 0), 1, g.count(7));
     }
 
     private static void wrongInputs() {
