@@ -608,8 +608,6 @@ public final class HeatGovernor {
         private static final int NOT_TOLD = 3;
         private static final int CLASH = 4;
 
-        // A NUMBER of more digits is held at this, which no place takes.
-        private static final int TOO_LONG = 1000;
         private static final int MOST_DIGITS = 3;
 
         private final byte[] text;
@@ -617,7 +615,6 @@ public final class HeatGovernor {
         private int place = 0;
         private int token = END;
         private int tokenPlace = 0;
-        private int number = 0;
         private int fault = 0;
 
         Reader(byte[] text) {
@@ -819,6 +816,7 @@ public final class HeatGovernor {
 
         /** The NUMBER that stands here; the least one that may, with a FAULT. */
         private int needNumber(int least, int most) {
+            int number = token == NUMBER ? numberHere() : NONE;
             if (token != NUMBER) {
                 fail(MISPLACED);
             } else if (number < least || number > most) {
@@ -853,13 +851,9 @@ public final class HeatGovernor {
             }
             tokenPlace = place;
             token = tokenAt(place);
-            if (token == WORD) {
-                while (place < length && tokenAt(place) == WORD) {
-                    place++;
-                }
-            } else if (token == NUMBER) {
-                passNumber();
-            } else if (token != END) {
+            boolean isRow = token == WORD || token == NUMBER;
+            place = Math.min(place + 1, length);
+            while (isRow && place < length && tokenAt(place) == token) {
                 place++;
             }
         }
@@ -878,13 +872,16 @@ public final class HeatGovernor {
             return text[where] == ';' ? SEMICOLON : NO_TOKEN;
         }
 
-        private void passNumber() {
-            number = 0;
-            while (place < length && tokenAt(place) == NUMBER) {
-                boolean tooLong = place - tokenPlace >= MOST_DIGITS;
-                number = tooLong ? TOO_LONG : number * 10 + text[place] - '0';
-                place++;
+        /** What the NUMBER that stands here comes to; NONE, which no place takes, with too many digits. */
+        private int numberHere() {
+            if (place - tokenPlace > MOST_DIGITS) {
+                return NONE;
             }
+            int sum = 0;
+            for (int i = tokenPlace; i < place; i++) {
+                sum = sum * 10 + text[i] - '0';
+            }
+            return sum;
         }
 
         private boolean isWord(String word) {
@@ -1353,7 +1350,8 @@ public final class HeatGovernor {
 
         /** The least ZONE that FIRST shuts, or NONE. */
         int firstZone(State now) {
-            firstMinutes(now);
+            trial.copyFrom(now);
+            untilShutMore();
             for (int z = 0; z < now.plan.zoneCount; z++) {
                 if (trial.isShut(z) && !now.isShut(z)) {
                     return z;
