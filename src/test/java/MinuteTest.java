@@ -322,6 +322,10 @@ public final class MinuteTest {
         }
         CHECK.row("the last zone", new int[] {g.ahead(4, 0, 0), g.look(4, 1) > 0 ? 1 : 0, g.years(1, 0, 1)},
                 g.zone(4, 0), 1, g.count(7));
+        CHECK.row("years, what cools", new int[] {g.years(1, 60, 0) > 0 ? 1 : 0, g.zone(0, 10)},
+                1, g.device(0, 4) + g.device(5, 4));
+        Check.plan(g, "zone 0 1;".repeat(5) + "trip 4 hot 999 0;".repeat(10) + "device fan 4 1 1;".repeat(6));
+        CHECK.same("nothing moves", g.count(12), 1);
     }
 
     private static void wrongInputs() {

@@ -22,7 +22,7 @@ public final class NotedTest {
         }
         CHECK.row("there are 8", new int[] {g.note(0, 0, 200), g.count(15), g.count(19), g.count(18), g.count(14)}, -1, 8, 8, 0, 0);
         g.undo();
-        CHECK.same("not undone", g.count(15), 8);
+        CHECK.row("not undone", new int[] {g.count(15), g.fits(0, 0), g.look(1, 0)}, 8, 0, -1);
         g.forget();
         CHECK.row("forgotten", new int[] {g.count(15), g.fits(0, 0), g.note(0, 0, 200), g.count(19)}, 0, 50, 1, 8);
         g.forget();
