@@ -73,6 +73,60 @@ final class Check {
         same(what + " (" + ILLEGAL + " is IllegalArgumentException)", outcome(call), ILLEGAL);
     }
 
+    /** What plan() answers for a text and fault() behind that, on an object of its own. */
+    void fault(String text, int fault, int place) {
+        HeatGovernor g = new HeatGovernor();
+        same("plan of " + text, plan(g, text), fault);
+        same("fault of " + text, g.fault(), place);
+        same("texts refused, of " + text, g.count(17), fault == 0 ? 0 : 1);
+    }
+
+    /** What is seen behind each of some minutes. */
+    static int[] seen(HeatGovernor g, int minutes, Call look) {
+        int[] row = new int[minutes];
+        for (int i = 0; i < minutes; i++) {
+            g.minutes(1);
+            row[i] = look.answer();
+        }
+        return row;
+    }
+
+    /** All that can be asked of an object but its tape, FAULT and STATUS, to compare what is ahead of a call and behind it. */
+    static String everything(HeatGovernor g) {
+        StringBuilder all = new StringBuilder("counts");
+        for (int what = 0; what < 16; what++) {
+            all.append(' ').append(g.count(what));
+        }
+        table(all, "zones", g.count(0), 11, g::zone);
+        table(all, "trips", g.count(1), 8, g::trip);
+        table(all, "devices", g.count(2), 7, g::device);
+        table(all, "log", g.count(13), 4, g::log);
+        table(all, "fits", g.count(0), 2, g::fits);
+        table(all, "look", g.count(0), 2, g::look);
+        for (int trip = 0; trip < g.count(1); trip++) {
+            int row = trip;
+            table(all, "binds", g.count(2), 2, (device, what) -> g.bind(row, device, what));
+        }
+        return all.toString();
+    }
+
+    private interface Cell {
+        int at(int row, int what);
+    }
+
+    private static void table(StringBuilder all, String name, int rows, int columns, Cell cell) {
+        all.append("; ").append(name);
+        for (int row = 0; row < rows; row++) {
+            for (int what = 0; what < columns; what++) {
+                all.append(what == 0 ? " | " : " ").append(cell.at(row, what));
+            }
+        }
+    }
+
+    void alike(String what, String got, String due) {
+        same(got.equals(due) ? what : what + ": " + got + " and not " + due, got.equals(due) ? 1 : 0, 1);
+    }
+
     void end() {
         System.out.println(checks + " answers, " + wrong + " wrong");
         if (wrong != 0 || checks == 0) {

@@ -23,24 +23,10 @@ public final class MinuteTest {
         CHECK.end();
     }
 
-    private interface Look {
-        int at();
-    }
-
-    /** What is seen behind each of some minutes. */
-    private static int[] seen(HeatGovernor g, int minutes, Look look) {
-        int[] row = new int[minutes];
-        for (int i = 0; i < minutes; i++) {
-            g.minutes(1);
-            row[i] = look.at();
-        }
-        return row;
-    }
-
     private static void heatLeaks() {
         HeatGovernor g = Check.told("zone 20 10;");
         // 200, and 20 less (HEAT - 200) / 10.
-        CHECK.row("heats", seen(g, 6, () -> g.zone(0, 0)), 220, 238, 255, 270, 283, 295);
+        CHECK.row("heats", Check.seen(g, 6, () -> g.zone(0, 0)), 220, 238, 255, 270, 283, 295);
         HeatGovernor cold = Check.told("zone 0 7;device valve 0 1 30;");
         cold.hold(0, 1);
         cold.minutes(2);
@@ -61,7 +47,7 @@ public final class MinuteTest {
     private static void wallsPassHeat() {
         HeatGovernor g = Check.told("zone 10 50;zone 0 50;wall 1 0 4;");
         // 210 and 200: (200 - 210) / 4 goes downwards to -3: 3 from the second to the first one.
-        CHECK.row("first", seen(g, 2, () -> g.zone(0, 0)), 210, 217);
+        CHECK.row("first", Check.seen(g, 2, () -> g.zone(0, 0)), 210, 217);
         CHECK.same("second", g.zone(1, 0), 203);
         HeatGovernor two = Check.told("zone 10 50;zone 0 50;wall 0 1 4;wall 0 1 5;");
         two.minutes(2);
@@ -82,7 +68,7 @@ public final class MinuteTest {
         filter("slow 2", 210, 224, 239, 254, 268, 281);
         filter("slow 4", 205, 213, 223, 234, 246, 258);
         HeatGovernor beside = Check.told("zone 99 50;zone 20 10 mean 4;zone 99 50;zone 20 10 median 4;");
-        CHECK.row("each by its own readings", seen(beside, 6, () -> beside.zone(1, 1)), 205, 214, 228, 245, 261, 275);
+        CHECK.row("each by its own readings", Check.seen(beside, 6, () -> beside.zone(1, 1)), 205, 214, 228, 245, 261, 275);
         CHECK.same("and the fourth", beside.zone(3, 1), 270);
         HeatGovernor falls = Check.told("zone 0 50 slow 3;device valve 0 1 10;");
         falls.hold(0, 1);
@@ -93,16 +79,16 @@ public final class MinuteTest {
 
     private static void filter(String filter, int... due) {
         HeatGovernor g = Check.told("zone 20 10 " + filter + ";");
-        CHECK.row(filter, seen(g, due.length, () -> g.zone(0, 1)), due);
+        CHECK.row(filter, Check.seen(g, due.length, () -> g.zone(0, 1)), due);
         CHECK.same(filter + ": slope", g.zone(0, 2), due[due.length - 1] - due[due.length - 2]);
     }
 
     private static void tripsFlip() {
         HeatGovernor g = Check.told("zone 20 10;trip 0 hot 238 3;trip 0 hot 239 0;trip 0 hot 200 0;");
-        CHECK.row("AT is enough", seen(g, 3, () -> g.count(8)), 4, 5, 7);
+        CHECK.row("AT is enough", Check.seen(g, 3, () -> g.count(8)), 4, 5, 7);
         g.load(0, 0);
         // 255, 250, 245, 241, 237, 234.
-        CHECK.row("AT less DROP is not below", seen(g, 5, () -> g.count(8)), 7, 7, 7, 5, 4);
+        CHECK.row("AT less DROP is not below", Check.seen(g, 5, () -> g.count(8)), 7, 7, 7, 5, 4);
         g.load(0, 20);
         g.minutes(5);
         CHECK.row("each once a crossing", new int[] {g.trip(0, 5), g.trip(1, 5), g.trip(2, 5)}, 2, 2, 1);
@@ -111,26 +97,26 @@ public final class MinuteTest {
 
     private static void steps() {
         HeatGovernor g = Check.told("zone 30 50;trip 0 step 230 10;device valve 0 2 1;bind 0 0 5;");
-        CHECK.row("one more each minute, MOST at most", seen(g, 4, () -> g.bind(0, 0, 1)), 1, 2, 2, 2);
+        CHECK.row("one more each minute, MOST at most", Check.seen(g, 4, () -> g.bind(0, 0, 1)), 1, 2, 2, 2);
         g.load(0, 0);
-        CHECK.row("one less, as it falls", seen(g, 3, () -> g.bind(0, 0, 1)), 1, 0, 0);
+        CHECK.row("one less, as it falls", Check.seen(g, 3, () -> g.bind(0, 0, 1)), 1, 0, 0);
         g.undo();
         g.undo();
         g.undo();
         CHECK.same("undone", g.bind(0, 0, 1), 2);
         // The slope comes to 0: it stays as ahead.
         HeatGovernor flat = Check.told("zone 3 50;trip 0 step 202 0;device fan 0 9 3;bind 0 0 1;");
-        CHECK.row("temps", seen(flat, 4, () -> flat.zone(0, 1)), 203, 203, 203, 203);
+        CHECK.row("temps", Check.seen(flat, 4, () -> flat.zone(0, 1)), 203, 203, 203, 203);
         CHECK.same("as ahead", flat.bind(0, 0, 1), 1);
         HeatGovernor off = Check.told("zone 50 50;trip 0 step 250 0;device valve 0 9 20;bind 0 0 1;");
         off.hold(0, 0);
         off.minutes(4);
         off.hold(0, 9);
-        CHECK.row("held, but WANTED goes on", seen(off, 3, () -> off.bind(0, 0, 1)), 5, 4, 3);
+        CHECK.row("held, but WANTED goes on", Check.seen(off, 3, () -> off.bind(0, 0, 1)), 5, 4, 3);
         CHECK.row("OFF", new int[] {off.zone(0, 1), off.trip(0, 4)}, 177, 0);
         off.hold(0, 0);
         off.minutes(1);
-        CHECK.row("OFF and rising: one less", seen(off, 3, () -> off.bind(0, 0, 1)), 1, 0, 0);
+        CHECK.row("OFF and rising: one less", Check.seen(off, 3, () -> off.bind(0, 0, 1)), 1, 0, 0);
         CHECK.same("rising", off.zone(0, 2) > 0 ? 1 : 0, 1);
     }
 
@@ -160,7 +146,7 @@ public final class MinuteTest {
         HeatGovernor g = Check.told("zone 60 50;trip 0 share 300 20;" + devices + "bind 0 2 2;bind 0 1 1;bind 0 0 2;");
         g.minutes(2);
         g.load(0, 0);
-        CHECK.row("temps", seen(g, 6, () -> g.zone(0, 1)), 315, 311, 307, 304, 301, 298);
+        CHECK.row("temps", Check.seen(g, 6, () -> g.zone(0, 1)), 315, 311, 307, 304, 301, 298);
         shared(g, "below AT, but not by DROP: at least 1", 1, 1, 0, 0);
         g.minutes(9);
         CHECK.same("AT less DROP", g.zone(0, 1), 280);
@@ -185,11 +171,11 @@ public final class MinuteTest {
         for (int d = 0; d < 3; d++) {
             g.hold(d, 3);
         }
-        CHECK.row("up", seen(g, 4, () -> states(g)), 133, 233, 333, 333);
+        CHECK.row("up", Check.seen(g, 4, () -> states(g)), 133, 233, 333, 333);
         for (int d = 0; d < 3; d++) {
             g.hold(d, 1);
         }
-        CHECK.row("down", seen(g, 3, () -> states(g)), 212, 111, 111);
+        CHECK.row("down", Check.seen(g, 3, () -> states(g)), 212, 111, 111);
         CHECK.same("what cools", g.zone(0, 10), 3);
         for (int d = 0; d < 3; d++) {
             g.hold(d, -1);

@@ -89,80 +89,80 @@ public final class TextTest {
     }
 
     private static void tokens() {
-        fault("", 0, -1);
-        fault("  \n ", 0, -1);
-        fault("zone1 2;zone3 4mean;zone5 6median2;", 0, -1);
-        fault("zone\n001\n02\n;", 0, -1);
-        fault("foreseen 009;", 0, -1);
-        fault("zone 0001 2;", 2, 5);
-        fault("zone 12345678901234567890 2;", 2, 5);
-        fault("zone 1\t2;", 1, 6);
-        fault("zone 1 2;\0", 1, 9);
-        fault("zone 1 2;\u00e9", 1, 9);
-        fault("zone 1 2:", 1, 8);
-        fault("Zone 1 2;", 1, 0);
-        fault("zonE 1 2;", 1, 0);
-        fault("zone -1 2;", 1, 5);
+        CHECK.fault("", 0, -1);
+        CHECK.fault("  \n ", 0, -1);
+        CHECK.fault("zone1 2;zone3 4mean;zone5 6median2;", 0, -1);
+        CHECK.fault("zone\n001\n02\n;", 0, -1);
+        CHECK.fault("foreseen 009;", 0, -1);
+        CHECK.fault("zone 0001 2;", 2, 5);
+        CHECK.fault("zone 12345678901234567890 2;", 2, 5);
+        CHECK.fault("zone 1\t2;", 1, 6);
+        CHECK.fault("zone 1 2;\0", 1, 9);
+        CHECK.fault("zone 1 2;\u00e9", 1, 9);
+        CHECK.fault("zone 1 2:", 1, 8);
+        CHECK.fault("Zone 1 2;", 1, 0);
+        CHECK.fault("zonE 1 2;", 1, 0);
+        CHECK.fault("zone -1 2;", 1, 5);
     }
 
     private static void misplaced() {
-        fault(";", 1, 0);
-        fault(" 5", 1, 1);
-        fault("zones 1 2;", 1, 0);
-        fault("zon 1 2;", 1, 0);
-        fault("mean", 1, 0);
-        fault("zone", 1, 4);
-        fault("zone ", 1, 5);
-        fault("zone 1", 1, 6);
-        fault("zone 1 2  ", 1, 10);
-        fault("zone 1 2 mean \n", 1, 15);
-        fault("zone 1 2 mean 2", 1, 15);
-        fault("zone 1 2 3;", 1, 9);
-        fault("zone 1 2 2000;", 1, 9);
-        fault("zone 1 2 raw;", 1, 9);
-        fault("zone 1 2 mean slow;", 1, 14);
-        fault("zone 1 2 mean 2 2;", 1, 16);
-        fault("zone one 2;", 1, 5);
-        fault("zone 1 2;trip step;", 1, 14);
-        fault("zone 1 2;trip 0 300 0;", 1, 16);
-        fault("zone 1 2;trip 0 fan 300 0;", 1, 16);
-        fault("zone 1 2;trip 0 hot 300;", 1, 23);
-        fault("zone 1 2;device step 0 1 1;", 1, 16);
-        fault("zone 1 2;device fan pump 1 1;", 1, 20);
-        fault("zone 1 2;device fan 0 1 1 1;", 1, 26);
-        fault("bind ;", 1, 5);
-        fault("wall 0", 3, 5);
-        fault("foreseen;", 1, 8);
-        fault("foreseen 1", 1, 10);
+        CHECK.fault(";", 1, 0);
+        CHECK.fault(" 5", 1, 1);
+        CHECK.fault("zones 1 2;", 1, 0);
+        CHECK.fault("zon 1 2;", 1, 0);
+        CHECK.fault("mean", 1, 0);
+        CHECK.fault("zone", 1, 4);
+        CHECK.fault("zone ", 1, 5);
+        CHECK.fault("zone 1", 1, 6);
+        CHECK.fault("zone 1 2  ", 1, 10);
+        CHECK.fault("zone 1 2 mean \n", 1, 15);
+        CHECK.fault("zone 1 2 mean 2", 1, 15);
+        CHECK.fault("zone 1 2 3;", 1, 9);
+        CHECK.fault("zone 1 2 2000;", 1, 9);
+        CHECK.fault("zone 1 2 raw;", 1, 9);
+        CHECK.fault("zone 1 2 mean slow;", 1, 14);
+        CHECK.fault("zone 1 2 mean 2 2;", 1, 16);
+        CHECK.fault("zone one 2;", 1, 5);
+        CHECK.fault("zone 1 2;trip step;", 1, 14);
+        CHECK.fault("zone 1 2;trip 0 300 0;", 1, 16);
+        CHECK.fault("zone 1 2;trip 0 fan 300 0;", 1, 16);
+        CHECK.fault("zone 1 2;trip 0 hot 300;", 1, 23);
+        CHECK.fault("zone 1 2;device step 0 1 1;", 1, 16);
+        CHECK.fault("zone 1 2;device fan pump 1 1;", 1, 20);
+        CHECK.fault("zone 1 2;device fan 0 1 1 1;", 1, 26);
+        CHECK.fault("bind ;", 1, 5);
+        CHECK.fault("wall 0", 3, 5);
+        CHECK.fault("foreseen;", 1, 8);
+        CHECK.fault("foreseen 1", 1, 10);
     }
 
     private static void tooMuch() {
-        fault("zone 99 50;", 0, -1);
-        fault("zone 100 50;", 2, 5);
-        fault("zone 99 51;", 2, 8);
-        fault("zone 0 0;", 2, 7);
-        fault("zone 0 1 mean 0;", 2, 14);
-        fault("zone 0 1 slow 5;", 2, 14);
-        fault("zone 0 1 slow 1000;", 2, 14);
+        CHECK.fault("zone 99 50;", 0, -1);
+        CHECK.fault("zone 100 50;", 2, 5);
+        CHECK.fault("zone 99 51;", 2, 8);
+        CHECK.fault("zone 0 0;", 2, 7);
+        CHECK.fault("zone 0 1 mean 0;", 2, 14);
+        CHECK.fault("zone 0 1 slow 5;", 2, 14);
+        CHECK.fault("zone 0 1 slow 1000;", 2, 14);
         String zone = "zone 1 2;";
-        fault(zone + "trip 5 hot 300 0;", 2, 14);
-        fault(zone + "trip 0 hot 199 0;", 2, 20);
-        fault(zone + "trip 0 hot 1000 0;", 2, 20);
-        fault(zone + "trip 0 hot 300 100;", 2, 24);
-        fault(zone + "device fan 5 1 1;", 2, 20);
-        fault(zone + "device fan 0 0 1;", 2, 22);
-        fault(zone + "device fan 0 10 1;", 2, 22);
-        fault(zone + "device fan 0 1 0;", 2, 24);
-        fault(zone + "device fan 0 1 31;", 2, 24);
-        fault("bind 10 0 1;", 2, 5);
-        fault("wall 5 0 1;", 2, 5);
+        CHECK.fault(zone + "trip 5 hot 300 0;", 2, 14);
+        CHECK.fault(zone + "trip 0 hot 199 0;", 2, 20);
+        CHECK.fault(zone + "trip 0 hot 1000 0;", 2, 20);
+        CHECK.fault(zone + "trip 0 hot 300 100;", 2, 24);
+        CHECK.fault(zone + "device fan 5 1 1;", 2, 20);
+        CHECK.fault(zone + "device fan 0 0 1;", 2, 22);
+        CHECK.fault(zone + "device fan 0 10 1;", 2, 22);
+        CHECK.fault(zone + "device fan 0 1 0;", 2, 24);
+        CHECK.fault(zone + "device fan 0 1 31;", 2, 24);
+        CHECK.fault("bind 10 0 1;", 2, 5);
+        CHECK.fault("wall 5 0 1;", 2, 5);
         String bound = zone + "trip 0 step 300 0;device fan 0 1 1;bind 0 ";
-        fault(bound + "6 1;", 2, bound.length());
-        fault(bound + "0 0;", 2, bound.length() + 2);
-        fault(bound + "0 10;", 2, bound.length() + 2);
-        fault(zone + zone + "wall 0 1 0;", 2, 27);
-        fault(zone + zone + "wall 0 1 51;", 2, 27);
-        fault("foreseen 10;", 2, 9);
+        CHECK.fault(bound + "6 1;", 2, bound.length());
+        CHECK.fault(bound + "0 0;", 2, bound.length() + 2);
+        CHECK.fault(bound + "0 10;", 2, bound.length() + 2);
+        CHECK.fault(zone + zone + "wall 0 1 0;", 2, 27);
+        CHECK.fault(zone + zone + "wall 0 1 51;", 2, 27);
+        CHECK.fault("foreseen 10;", 2, 9);
         many(zone, "", 5);
         many("trip 0 hot 300 0;", zone, 10);
         many("device fan 0 1 1;", zone, 6);
@@ -172,44 +172,44 @@ public final class TextTest {
     /** So many of a clause may be; one more is a fault at its word, whatever comes behind. */
     private static void many(String clause, String ahead, int most) {
         String text = ahead + clause.repeat(most);
-        fault(text, 0, -1);
-        fault(text + clause, 2, text.length());
-        fault(text + clause.substring(0, clause.indexOf(' ')), 2, text.length());
+        CHECK.fault(text, 0, -1);
+        CHECK.fault(text + clause, 2, text.length());
+        CHECK.fault(text + clause.substring(0, clause.indexOf(' ')), 2, text.length());
     }
 
     private static void notTold() {
-        fault("trip 0 hot 300 0;", 3, 5);
-        fault("zone 1 2;trip 1 hot 300 0;zone 1 2;", 3, 14);
-        fault("zone 1 2;device fan 4 1 1;", 3, 20);
-        fault("zone 1 2;wall 0 1 5;", 3, 16);
-        fault("bind 0 0 1;", 3, 5);
-        fault("bind 9 0 1;", 3, 5);
+        CHECK.fault("trip 0 hot 300 0;", 3, 5);
+        CHECK.fault("zone 1 2;trip 1 hot 300 0;zone 1 2;", 3, 14);
+        CHECK.fault("zone 1 2;device fan 4 1 1;", 3, 20);
+        CHECK.fault("zone 1 2;wall 0 1 5;", 3, 16);
+        CHECK.fault("bind 0 0 1;", 3, 5);
+        CHECK.fault("bind 9 0 1;", 3, 5);
         String trip = "zone 1 2;trip 0 step 300 0;";
-        fault(trip + "bind 0 0 1;", 3, trip.length() + 7);
-        fault(trip + "device fan 0 1 1;bind 0 5 1;", 3, trip.length() + 24);
+        CHECK.fault(trip + "bind 0 0 1;", 3, trip.length() + 7);
+        CHECK.fault(trip + "device fan 0 1 1;bind 0 5 1;", 3, trip.length() + 24);
     }
 
     private static void clashes() {
         String zones = "zone 1 2;zone 1 2;";
-        fault(zones + "wall 1 1 5;", 4, 25);
-        fault("foreseen 0;foreseen 1;", 4, 11);
-        fault("foreseen 0;foreseen", 4, 11);
-        fault(zones + "trip 0 critical 300 0;trip 1 critical 300 0;", 0, -1);
+        CHECK.fault(zones + "wall 1 1 5;", 4, 25);
+        CHECK.fault("foreseen 0;foreseen 1;", 4, 11);
+        CHECK.fault("foreseen 0;foreseen", 4, 11);
+        CHECK.fault(zones + "trip 0 critical 300 0;trip 1 critical 300 0;", 0, -1);
         String critical = zones + "trip 1 critical 300 0;";
-        fault(critical + "trip 1 critical 300 0;", 4, critical.length() + 7);
+        CHECK.fault(critical + "trip 1 critical 300 0;", 4, critical.length() + 7);
         String trips = zones + "trip 0 hot 300 0;trip 0 critical 300 0;trip 0 share 300 0;trip 0 step 300 0;"
                 + "device fan 0 1 1;device fan 0 1 1;";
         int end = trips.length();
-        fault(trips + "bind 0 0 1;", 4, end + 5);
-        fault(trips + "bind 1 0 1;", 4, end + 5);
-        fault(trips + "bind 2 0 1;bind 2 1 1;bind 3 0 1;", 0, -1);
-        fault(trips + "bind 2 1 1;bind 2 0 1;bind 2 1 3;", 4, end + 29);
+        CHECK.fault(trips + "bind 0 0 1;", 4, end + 5);
+        CHECK.fault(trips + "bind 1 0 1;", 4, end + 5);
+        CHECK.fault(trips + "bind 2 0 1;bind 2 1 1;bind 3 0 1;", 0, -1);
+        CHECK.fault(trips + "bind 2 1 1;bind 2 0 1;bind 2 1 3;", 4, end + 29);
     }
 
     private static void firstFaultAlongTheText() {
-        fault("wall 0 5 99;;zone", 3, 5);
-        fault("zone 100 99 ! ;", 2, 5);
-        fault("zone 1 2;trip 0 hot 300 0;bind 0 9 0;", 4, 31);
+        CHECK.fault("wall 0 5 99;;zone", 3, 5);
+        CHECK.fault("zone 100 99 ! ;", 2, 5);
+        CHECK.fault("zone 1 2;trip 0 hot 300 0;bind 0 9 0;", 4, 31);
     }
 
     private static void faultLeavesAll() {
@@ -241,12 +241,5 @@ public final class TextTest {
         CHECK.row("calls refused still count", new int[] {g.count(17), g.count(18), g.count(19)}, 1, 1, 1);
         CHECK.same("the image is gone", g.restore() ? 1 : 0, 0);
         CHECK.same("acts are gone", g.undo(), -1);
-    }
-
-    private static void fault(String text, int fault, int place) {
-        HeatGovernor g = new HeatGovernor();
-        CHECK.same("plan of " + text, Check.plan(g, text), fault);
-        CHECK.same("fault of " + text, g.fault(), place);
-        CHECK.same("texts refused, of " + text, g.count(17), fault == 0 ? 0 : 1);
     }
 }
