@@ -29,6 +29,7 @@ public final class EdgeActTest {
         inPlaceOfAnotherOne();
         imageOfNoActs();
         imageOfAllActs();
+        imageOfFewActs();
         imageOfNoted();
         imageOfStatus();
         imageStays();
@@ -331,16 +332,39 @@ public final class EdgeActTest {
                 g.load(0, i);
             }
             g.image();
-            for (int i = 0; i < 40; i++) {
+            for (int i = 0; i < 40 && acts < 70; i++) {
                 g.undo();
             }
-            g.load(0, 99);
-            g.minutes(1);
-            CHECK.row("all of them", new int[] {g.restore() ? 1 : 0, g.count(14), g.zone(0, 3), g.count(5)}, 1, 40, acts, 0);
+            for (int i = 0; i < 45; i++) {
+                g.foresee(1 + i % 9);
+            }
+            CHECK.row("all of them", new int[] {g.restore() ? 1 : 0, g.count(14), g.zone(0, 3), g.count(6)}, 1, 40, acts, 0);
             for (int left = 39; left >= 0; left--) {
                 CHECK.row("undone", new int[] {g.undo(), g.zone(0, 3)}, left, acts - 40 + left);
             }
             CHECK.row("none is left", new int[] {g.undo(), g.zone(0, 3)}, -1, acts - 40);
+        }
+    }
+
+    /** Promise 26: "It is as the IMAGE again: true." (part 3: "ACTS that are kept": 1 to 3, with others in their place now). */
+    private static void imageOfFewActs() {
+        for (int acts = 1; acts <= 3; acts++) {
+            HeatGovernor g = Check.told("zone 0 9;");
+            for (int i = 1; i <= acts; i++) {
+                g.load(0, i);
+            }
+            g.image();
+            for (int i = 0; i < acts; i++) {
+                g.undo();
+            }
+            for (int i = 0; i < 45; i++) {
+                g.load(0, 50 + i);
+            }
+            CHECK.row("as many", new int[] {g.restore() ? 1 : 0, g.count(14), g.zone(0, 3)}, 1, acts, acts);
+            for (int left = acts - 1; left >= 0; left--) {
+                CHECK.row("undone", new int[] {g.undo(), g.zone(0, 3)}, left, left);
+            }
+            CHECK.same("none is left", g.undo(), -1);
         }
     }
 
@@ -360,6 +384,17 @@ public final class EdgeActTest {
         g.image();
         g.note(0, 0, 1500);
         CHECK.row("none", new int[] {g.restore() ? 1 : 0, g.count(15), g.fits(0, 0), g.note(0, 0, 200)}, 1, 0, 50, 1);
+        // Of which ZONE, behind how many MINUTES and which HEAT: of each another one is NOTED in its place.
+        int[][] others = {{0, 3, 202}, {1, 2, 202}, {1, 3, 203}};
+        for (int[] other : others) {
+            HeatGovernor two = Check.told("zone 1 50;zone 1 50;");
+            two.note(1, 3, 202);
+            two.image();
+            two.forget();
+            two.note(other[0], other[1], other[2]);
+            CHECK.row("one of ZONE 1", new int[] {two.restore() ? 1 : 0, two.fits(0, 0), two.fits(1, 0), two.fits(1, 1)},
+                    1, 0, 1, 2);
+        }
     }
 
     /** Promise 26 (part 3): "AN IMAGE keeps .. STATUS." (0, and more.) */

@@ -436,6 +436,10 @@ public final class EdgeAheadTest {
         // 298, 297, 296 ..
         CHECK.row("the first one", new int[] {falls.bears(0, 1, 0), falls.bears(0, 2, 0), falls.bears(0, 200, 0)},
                 298, 298, 298);
+        HeatGovernor cold = Check.told("zone 0 50;device valve 0 9 30;");
+        cold.hold(0, 9);
+        cold.minutes(2);
+        CHECK.row("0 all the time", new int[] {cold.zone(0, 0), cold.bears(0, 1, 0), cold.bears(0, 200, 0)}, 0, 0, 0);
         HeatGovernor swings = Check.told(SWINGS);
         CHECK.row("230, 240, 230", new int[] {swings.bears(0, 1, 0), swings.bears(0, 2, 0), swings.bears(0, 3, 0)},
                 230, 240, 240);
@@ -475,6 +479,9 @@ public final class EdgeAheadTest {
     /** Promise 12 (part 3): "nor is now; none." */
     private static void bearsNone() {
         CHECK.same("200: not even 0", Check.told("zone 0 50;trip 0 critical 200 0;").bears(0, 1, 1), -1);
+        // Zone 1 is 250 behind a MINUTE, and all that it is more comes through the wall then.
+        HeatGovernor wall = Check.told("zone 0 50;zone 50 50;wall 1 0 1;trip 0 critical 220 0;");
+        CHECK.row("19 for 1, not even 0 for 2", new int[] {wall.bears(0, 1, 1), wall.bears(0, 2, 1)}, 19, -1);
         HeatGovernor g = Check.told("zone 40 1;trip 0 critical 240 0;");
         g.minutes(1);
         CHECK.row("SHUT now", new int[] {g.zone(0, 7), g.bears(0, 1, 1), g.bears(0, 60, 1)}, 1, -1, -1);
@@ -568,7 +575,7 @@ public final class EdgeAheadTest {
         }
     }
 
-    /** Promise 24 (part 3): "a DRAW of 4: 0 the LOAD of a DRAW of ZONES becomes a DRAW of 100 ..; else nothing". */
+    /** Promise 24 (part 3): "a DRAW of 4: 0 the LOAD of a DRAW of ZONES becomes a DRAW of 100 .. else nothing". */
     private static void drawOfFour() {
         HeatGovernor g = Check.told("zone 5 50;");
         // The first DRAW of 4 by these seeds is 0, 1, 2, 3; the LOAD by 0 is 88.
@@ -577,7 +584,7 @@ public final class EdgeAheadTest {
         CHECK.same("LOAD is as it was", g.zone(0, 3), 5);
     }
 
-    /** Promise 24 (part 3): "the LOAD of a DRAW of ZONES" (of one, of five: each of them). */
+    /** Promise 24 (part 3): "the LOAD of a DRAW of ZONES" (of one, of five: each), "ZONES that are SHUT then (bits)". */
     private static void drawOfZones() {
         HeatGovernor one = Check.told("zone 0 50;trip 0 critical 201 0;");
         HeatGovernor five = Check.told("zone 0 50;".repeat(5) + "trip 0 critical 201 0;trip 1 critical 201 0;"

@@ -11,6 +11,8 @@ public final class EdgeAnswerTest {
         shutBits();
         onBits();
         emptyAndFull();
+        refusedCalls();
+        callsThatThrow();
         zoneWhats();
         noSuchZone();
         whyOfAZone();
@@ -26,6 +28,7 @@ public final class EdgeAnswerTest {
         notBound();
         logWhats();
         logRows();
+        asMuchAsMayBe();
         manyCalls();
         CHECK.end();
     }
@@ -106,6 +109,50 @@ public final class EdgeAnswerTest {
         Check.feed(g, " ".repeat(700));
         CHECK.row("full", new int[] {g.count(13), g.count(14), g.count(15), g.count(16), g.count(17), g.count(18),
             g.count(19)}, 40, 40, 8, 700, 1, 2, 1);
+    }
+
+    private static int[] status(HeatGovernor g) {
+        return new int[] {g.count(17), g.count(18), g.count(19)};
+    }
+
+    /** Promise 5 (part 3): "STATUS: how many calls were refused: 0 TEXTS with a FAULT, 1 ACTS, 2 what is NOTED." */
+    private static void refusedCalls() {
+        HeatGovernor g = Check.told("zone 9 9;device fan 0 9 1;");
+        CHECK.row("a TEXT without a FAULT", status(g), 0, 0, 0);
+        Check.plan(g, "?");
+        CHECK.row("with one", status(g), 1, 0, 0);
+        g.minutes(1);
+        g.load(0, 5);
+        g.hold(0, 5);
+        g.foresee(5);
+        g.note(0, 0, 200);
+        CHECK.row("ACTS and a note that are taken", status(g), 1, 0, 0);
+        g.minutes(61);
+        g.load(0, 5);
+        g.hold(0, 5);
+        g.start(0);
+        g.foresee(5);
+        CHECK.row("one ACT of each kind", status(g), 1, 5, 0);
+        g.note(1, 0, 200);
+        CHECK.row("a note", status(g), 1, 5, 1);
+        g.undo();
+        g.forget();
+        CHECK.row("neither undo nor forget takes any back", status(g), 1, 5, 1);
+        Check.plan(g, "zone 9 9;");
+        CHECK.row("nor does a TEXT", status(g), 1, 5, 1);
+    }
+
+    /** Promise 5 (part 3): "STATUS: how many calls were refused" (a call that throws, undo() and feed() are none of these). */
+    private static void callsThatThrow() {
+        HeatGovernor g = Check.told("zone 9 9;");
+        CHECK.illegal("plan", () -> g.plan(1));
+        CHECK.illegal("ahead", () -> g.ahead(0, 201, 0));
+        CHECK.noSuch("zone", () -> g.zone(1, 0));
+        CHECK.noSuch("fits", () -> g.fits(1, 0));
+        CHECK.row("undo, restore", new int[] {g.undo(), g.restore() ? 1 : 0}, -1, 0);
+        Check.feed(g, " ".repeat(700));
+        CHECK.same("feed", g.feed(0, 0, 0, 0, 0), -1);
+        CHECK.row("none counts", status(g), 0, 0, 0);
     }
 
     // ---- promise 6
@@ -270,6 +317,35 @@ public final class EdgeAnswerTest {
     }
 
     // ---- all
+
+    /** Promises 5 to 13, 21, 22, 24 (part 1): "(at most 5)", "(at most 10)", "(at most 6)", "at most 8" (all of these at once). */
+    private static void asMuchAsMayBe() {
+        StringBuilder text = new StringBuilder("zone 1 50;".repeat(5));
+        for (int t = 0; t < 10; t++) {
+            text.append("trip").append(t % 5).append(t < 5 ? "critical250 9;" : "share200 0;");
+        }
+        for (int d = 0; d < 6; d++) {
+            text.append("device valve").append(d % 5).append(" 9 1;");
+        }
+        for (int d = 0; d < 6; d++) {
+            text.append("bind9 ").append(d).append(" 1;");
+        }
+        for (int w = 0; w < 8; w++) {
+            text.append("wall").append(w % 5).append(' ').append((w + 1) % 5).append(" 50;");
+        }
+        HeatGovernor g = Check.told(text.toString());
+        CHECK.row("all told", new int[] {g.count(0), g.count(1), g.count(2), g.count(3), g.count(4)}, 5, 10, 6, 6, 8);
+        g.minutes(1);
+        // All are 201, so that nothing goes through a wall; of one that is ASKED the first one has it.
+        CHECK.row("the last ones", new int[] {g.zone(4, 0), g.trip(9, 4), g.trip(9, 6), g.bind(9, 0, 1), g.bind(9, 5, 1),
+            g.device(0, 4), g.device(5, 4), g.count(8)}, 201, 1, 1, 1, 0, 1, 0, 992);
+        CHECK.row("the last ZONE AHEAD", new int[] {g.ahead(4, 1, 0), g.ahead(4, 1, 1), g.ahead(4, 1, 2)}, 202, 202, 0);
+        CHECK.row("FLIPS of the last TRIP", new int[] {g.flips(9, 1), g.flips(9, 200)}, 0, 0);
+        CHECK.row("the last ZONE's PEAK, BEARS, FITS", new int[] {g.bears(4, 1, 0), g.bears(4, 1, 1), g.fits(4, 0), g.fits(4, 1)},
+                202, 48, 50, 1);
+        CHECK.row("nothing moves", new int[] {Check.plan(g, "zone 0 50;".repeat(5) + "trip 4 hot 999 0;".repeat(10)
+            + "device fan 4 9 9;".repeat(6) + "wall 0 1 9;".repeat(8)), g.count(12), g.look(4, 0), g.look(4, 1)}, 0, 1, 0, 1);
+    }
 
     /** All promises: "An object is used for at most 512 calls after it has been made". */
     private static void manyCalls() {

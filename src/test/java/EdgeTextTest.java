@@ -31,6 +31,8 @@ public final class EdgeTextTest {
         wholeTape();
         emptyBehindAFault();
         allAnew();
+        allAnewBehindAFault();
+        allAnewAgainAndAgain();
         allStaysWithAFault();
         allIsGone();
         notSoManyBytes();
@@ -47,10 +49,12 @@ public final class EdgeTextTest {
         withoutFilter();
         depthThreeWithout();
         tripsAtMostTen();
+        sorts();
         ats();
         drops();
         tripsAreOffAtFirst();
         devicesAtMostSix();
+        makes();
         mosts();
         cools();
         statesAtFirst();
@@ -70,6 +74,7 @@ public final class EdgeTextTest {
         everyByteBetweenClauses();
         everyByteBetweenNumbers();
         wordsAreTheLongestRow();
+        wordsToTheLetter();
         numbersOfDigits();
         blanksCountForNothing();
         anyNumberOfClauses();
@@ -215,6 +220,32 @@ public final class EdgeTextTest {
         HeatGovernor other = Check.told(text);
         other.minutes(9);
         CHECK.alike("and goes on like it", Check.everything(g), Check.everything(other));
+    }
+
+    // As many of each as there may be, or nearly so.
+    private static final String MUCH = ZONE.repeat(5) + "trip 0 critical 300 0;trip 1 step 300 0;trip 1 share 300 0;"
+            + "device fan 0 1 1;device pump 1 1 1;bind 1 0 1;bind 1 1 1;bind 2 0 1;wall 0 1 9;wall 1 2 9;foreseen 9;";
+
+    /** Promise 3: "all anew: 0" (nothing is left of a TEXT with a FAULT, which told much ahead of that). */
+    private static void allAnewBehindAFault() {
+        HeatGovernor g = new HeatGovernor();
+        CHECK.same("much, and a fault", Check.plan(g, MUCH + "?"), 1);
+        CHECK.same("little", Check.plan(g, ZONE + ZONE), 0);
+        CHECK.alike("no more than that", Check.everything(g), Check.everything(Check.told(ZONE + ZONE)));
+        Check.plan(g, MUCH + "?");
+        CHECK.same("much, from its begin", Check.plan(g, MUCH), 0);
+        CHECK.row("as told", new int[] {g.count(0), g.count(1), g.count(2), g.count(3), g.count(4), g.count(6)}, 5, 3, 2, 3, 2, 9);
+    }
+
+    /** Promise 3: "all anew: 0" (nor is anything left of the TEXTS ahead, of whichever one). */
+    private static void allAnewAgainAndAgain() {
+        HeatGovernor g = new HeatGovernor();
+        for (int i = 0; i < 3; i++) {
+            CHECK.row("much", new int[] {Check.plan(g, MUCH), g.count(0), g.count(3)}, 0, 5, 3);
+            CHECK.row("much, again", new int[] {Check.plan(g, MUCH), g.count(0), g.count(3)}, 0, 5, 3);
+            CHECK.same("little", Check.plan(g, ZONE), 0);
+            CHECK.row("little", new int[] {g.count(0), g.count(1), g.count(2), g.count(3), g.count(4), g.count(6)}, 1, 0, 0, 0, 0, 0);
+        }
     }
 
     /** Promise 3: "0, or the FAULT (all stays, but STATUS)." */
@@ -411,6 +442,16 @@ public final class EdgeTextTest {
         CHECK.fault(five + "trip 1 hot 300 0;".repeat(2), 2, five.length() + 17);
     }
 
+    /** Promise 7 (part 1): "of a SORT (0 step, 1 share, 2 hot, 3 critical)". */
+    private static void sorts() {
+        HeatGovernor g = Check.told(ZONE + "trip 0 step 300 0;trip 0 share 300 0;trip 0 hot 300 0;trip 0 critical 300 0;");
+        CHECK.row("sorts", new int[] {g.trip(0, 1), g.trip(1, 1), g.trip(2, 1), g.trip(3, 1)}, 0, 1, 2, 3);
+        String[] others = {"steps", "shar", "mean", "fan", "zone", "3"};
+        for (String other : others) {
+            CHECK.fault(ZONE + "trip 0 " + other + " 300 0;", 1, 16);
+        }
+    }
+
     /** Promise 3 (part 1): "AT (200 to 999)". */
     private static void ats() {
         range(ZONE + "trip 0 hot ", " 0;", 200, 999);
@@ -440,6 +481,16 @@ public final class EdgeTextTest {
         HeatGovernor g = Check.told(ZONE + "device fan 0 1 1;".repeat(5) + "device pump 0 7 8;");
         CHECK.row("the last one", new int[] {g.device(5, 0), g.device(5, 1), g.device(5, 2), g.device(5, 3)}, 2, 0, 7, 8);
         CHECK.noSuch("device 6", () -> g.device(6, 0));
+    }
+
+    /** Promise 8 (part 1): "each of a MAKE (0 fan, 1 valve, 2 pump)". */
+    private static void makes() {
+        HeatGovernor g = Check.told(ZONE + "device fan 0 1 1;device valve 0 1 1;device pump 0 1 1;");
+        CHECK.row("makes", new int[] {g.device(0, 0), g.device(1, 0), g.device(2, 0)}, 0, 1, 2);
+        String[] others = {"fans", "valv", "step", "slow", "zone", "2"};
+        for (String other : others) {
+            CHECK.fault(ZONE + "device " + other + " 0 1 1;", 1, 16);
+        }
     }
 
     /** Promise 3 (part 1): "with a MOST (1 to 9)". */
@@ -495,6 +546,12 @@ public final class EdgeTextTest {
     /** Promise 3 (part 1): "at most 8" (of "WALLS between two ZONES"). */
     private static void wallsAtMostEight() {
         atMost(ZONE + ZONE, "wall 0 1 9;", 8, 4);
+        // Through each of the eight 5 go from 240 to 200.
+        HeatGovernor g = Check.told("zone 40 50;zone 0 50;" + "wall 0 1 8;".repeat(8));
+        g.minutes(1);
+        g.load(0, 0);
+        g.minutes(1);
+        CHECK.row("through all of them", new int[] {g.zone(0, 0), g.zone(1, 0)}, 200, 240);
     }
 
     /** Promise 3 (part 1): "WALLS between two ZONES, of a K (1 to 50". */
@@ -596,6 +653,26 @@ public final class EdgeTextTest {
         CHECK.fault("zone{1 2;", 1, 4);
         CHECK.fault("zone 1/2;", 1, 6);
         CHECK.fault("zone 1:2;", 1, 6);
+    }
+
+    /** Promise 3 (part 1): "In quotes is what stands there" (another letter anywhere in a word is another word). */
+    private static void wordsToTheLetter() {
+        String trip = ZONE + "trip 0 step 300 0;device fan 0 1 1;";
+        String[][] words = {{"", "zone", " 1 2;"}, {ZONE, "trip", " 0 hot 300 0;"}, {ZONE, "device", " fan 0 1 1;"},
+            {trip, "bind", " 0 0 1;"}, {ZONE + ZONE, "wall", " 0 1 9;"}, {"", "foreseen", " 1;"}, {"zone 1 2 ", "mean", ";"},
+            {"zone 1 2 ", "median", " 1;"}, {"zone 1 2 ", "slow", ";"}, {ZONE + "trip 0 ", "step", " 300 0;"},
+            {ZONE + "trip 0 ", "share", " 300 0;"}, {ZONE + "trip 0 ", "hot", " 300 0;"},
+            {ZONE + "trip 0 ", "critical", " 300 0;"}, {ZONE + "device ", "fan", " 0 1 1;"},
+            {ZONE + "device ", "valve", " 0 1 1;"}, {ZONE + "device ", "pump", " 0 1 1;"}};
+        for (String[] word : words) {
+            taken(word[0] + word[1] + word[2]);
+            CHECK.fault(word[0] + word[1].toUpperCase() + word[2], 1, word[0].length());
+            for (int i = 0; i < word[1].length(); i++) {
+                String other = word[1].substring(0, i) + "x" + word[1].substring(i + 1);
+                CHECK.fault(word[0] + other + word[2], 1, word[0].length());
+                CHECK.fault(word[0] + word[1].substring(0, i) + word[1].substring(i + 1) + word[2], 1, word[0].length());
+            }
+        }
     }
 
     /** Promise 3 (part 1): "NUMBERS (1 to 3 digits)". */
