@@ -153,10 +153,13 @@ public final class EdgeAheadTest {
         String text = "zone 6 50;zone 0 50;zone 0 50;zone 0 50;zone 0 50;wall 0 1 2;wall 1 2 2;wall 2 3 2;wall 3 4 2;"
                 + "device fan 4 1 1;trip 4 critical 276 0;";
         HeatGovernor lived = Check.told(text);
-        while (lived.zone(4, 7) == 0 && lived.count(5) < 240) {
-            lived.minutes(1);
+        for (int i = 0; i < 3; i++) {
+            lived.minutes(60);
         }
         int shut = lived.count(5);
+        while (lived.zone(4, 7) == 0 && shut < 240) {
+            shut = lived.minutes(1);
+        }
         CHECK.row("lived through", new int[] {lived.zone(4, 7), shut > 201 && shut < 240 ? 1 : 0}, 1, 1);
         HeatGovernor g = Check.told(text);
         g.minutes(shut - 201);
@@ -250,53 +253,69 @@ public final class EdgeAheadTest {
         CHECK.same("the fewest of 2, 4, 6 ..", g.count(12), 2);
     }
 
-    /** The fewest MINUTES, one by one, behind which all that AGAIN tells of is as now. */
-    private static int livedAgain(HeatGovernor g, int most) {
-        String now = seenByAgain(g);
-        for (int n = 1; n <= most; n++) {
-            g.minutes(1);
-            if (seenByAgain(g).equals(now)) {
+    /** All that AGAIN tells of, but the READINGS ahead, of one ZONE, TRIP and DEVICE. */
+    private static String seenByAgain(HeatGovernor g) {
+        return g.zone(0, 0) + " " + g.zone(0, 1) + " " + g.zone(0, 7) + " " + g.trip(0, 4) + " " + g.device(0, 4) + " "
+                + g.bind(0, 0, 1);
+    }
+
+    private static final int SETTLED = 480;
+
+    private static HeatGovernor behind(String text, int minutes) {
+        HeatGovernor g = Check.told(text);
+        for (int left = minutes; left > 0; left -= 60) {
+            g.minutes(Math.min(left, 60));
+        }
+        return g;
+    }
+
+    /** What is seen in each MINUTE from one on, lived through by some objects, since none may be asked too often. */
+    private static String[] lived(String text, int from, int count) {
+        String[] all = new String[count];
+        HeatGovernor g = null;
+        for (int i = 0; i < count; i++) {
+            if (i % 40 == 0) {
+                g = behind(text, from + i);
+            } else {
+                g.minutes(1);
+            }
+            all[i] = seenByAgain(g);
+        }
+        return all;
+    }
+
+    /** AGAIN in MINUTE 480, lived through; where the latest READINGS count, so many MINUTES ahead must be alike, too. */
+    private static int livedAgain(String text, int readings) {
+        int now = readings - 1;
+        String[] all = lived(text, SETTLED - now, now + 201);
+        for (int n = 1; n <= 200; n++) {
+            boolean again = true;
+            for (int ago = 0; ago < readings; ago++) {
+                again &= all[now + n - ago].equals(all[now - ago]);
+            }
+            if (again) {
                 return n;
             }
         }
         return -1;
     }
 
-    /** Of one ZONE (raw or slow), TRIP and DEVICE. */
-    private static String seenByAgain(HeatGovernor g) {
-        return g.zone(0, 0) + " " + g.zone(0, 1) + " " + g.zone(0, 7) + " " + g.trip(0, 4) + " " + g.device(0, 4) + " "
-                + g.bind(0, 0, 1);
-    }
-
     /** Promise 5 (part 3): "AGAIN: the fewest MINUTES (1 to 200)" (200). */
     private static void againIsTwoHundred() {
         String text = "zone 57 38 slow 4;trip 0 step 239 34;device fan 0 6 20;bind 0 0 1;";
-        HeatGovernor g = settled(text);
-        CHECK.same("a round of 200", g.count(12), 200);
-        // In parts, so that no object is asked too often.
-        HeatGovernor first = settled(text);
-        CHECK.same("lived through, not in 60", livedAgain(first, 60), -1);
-        CHECK.row("lived through, behind 200", new int[] {g.minutes(60), g.minutes(60), g.minutes(60), g.minutes(20)},
-                540, 600, 660, 680);
-        CHECK.alike("as it was", seenByAgain(g), seenByAgain(settled(text)));
-    }
-
-    private static HeatGovernor settled(String text) {
-        HeatGovernor g = Check.told(text);
-        for (int i = 0; i < 8; i++) {
-            g.minutes(60);
-        }
-        return g;
+        CHECK.same("a round of 200, lived through", livedAgain(text, 1), 200);
+        CHECK.same("a round of 200", behind(text, SETTLED).count(12), 200);
     }
 
     /** Promise 5 (part 3): "AGAIN: the fewest MINUTES (1 to 200) behind which all .. as they are now; none." (201.) */
     private static void againIsTwoHundredAndOne() {
         String three = "zone 28 19 slow 2;trip 0 step 250 38;device valve 0 9 9;bind 0 0 1;";
         String many = "zone 46 31 median 3;trip 0 step 231 24;device fan 0 9 28;bind 0 0 1;";
-        CHECK.row("rounds of 3 and 67", new int[] {settled(three).count(12), settled(many).count(12)}, 3, 67);
-        // Both in one text: 201 is the first one behind which both are as now.
-        HeatGovernor both = settled(three + "zone 46 31 median 3;trip 1 step 231 24;device fan 1 9 28;bind 1 1 1;");
-        CHECK.same("a round of 201", both.count(12), -1);
+        CHECK.row("rounds, lived through", new int[] {livedAgain(three, 1), livedAgain(many, 3)}, 3, 67);
+        CHECK.row("rounds", new int[] {behind(three, SETTLED).count(12), behind(many, SETTLED).count(12)}, 3, 67);
+        // Both in one text, and apart from one another: 3 times 67 is the first number behind which both are as now.
+        String both = three + "zone 46 31 median 3;trip 1 step 231 24;device fan 1 9 28;bind 1 1 1;";
+        CHECK.same("a round of 201", behind(both, SETTLED).count(12), -1);
     }
 
     /** Promise 5 (part 3): "behind which all HEATS .. are as they are now". */
