@@ -3,15 +3,20 @@ import java.lang.reflect.Method;
 import java.lang.reflect.Modifier;
 import java.util.TreeSet;
 
-/** The public face is the document's, and no more (LANGUAGE.md, rule 1). */
+/** The public face is the document's, its throws too, and no more (LANGUAGE.md, rule 1). */
 public final class FaceTest {
     private static final String[] METHODS = {
-        "int feed(int,int,int,int,int)", "int plan(int)", "int fault()", "int count(int)", "int zone(int,int)",
-        "int trip(int,int)", "int device(int,int)", "int bind(int,int,int)", "int log(int,int)",
-        "int ahead(int,int,int)", "int bears(int,int,int)", "int flips(int,int)", "int minutes(int)",
+        "int feed(int,int,int,int,int)", "int plan(int) IllegalArgumentException", "int fault()",
+        "int count(int) NoSuchElementException", "int zone(int,int) NoSuchElementException",
+        "int trip(int,int) NoSuchElementException", "int device(int,int) NoSuchElementException",
+        "int bind(int,int,int) NoSuchElementException", "int log(int,int) NoSuchElementException",
+        "int ahead(int,int,int) NoSuchElementException IllegalArgumentException",
+        "int bears(int,int,int) NoSuchElementException IllegalArgumentException",
+        "int flips(int,int) NoSuchElementException IllegalArgumentException", "int minutes(int)",
         "int load(int,int)", "int hold(int,int)", "int start(int)", "int foresee(int)", "int undo()",
-        "int note(int,int,int)", "int fits(int,int)", "int look(int,int)", "void forget()",
-        "int years(int,int,int)", "void image()", "boolean restore()",
+        "int note(int,int,int)", "int fits(int,int) NoSuchElementException", "int look(int,int) NoSuchElementException",
+        "void forget()", "int years(int,int,int) NoSuchElementException IllegalArgumentException", "void image()",
+        "boolean restore()",
     };
 
     public static void main(String[] args) {
@@ -27,7 +32,7 @@ public final class FaceTest {
             if (Modifier.isPrivate(method.getModifiers())) {
                 check.same("private " + method.getName(), publicNames.contains(method.getName()) ? 1 : 0, 0);
             } else {
-                got.add(method.getReturnType() + " " + method.getName() + parameters(method));
+                got.add(method.getReturnType() + " " + method.getName() + parameters(method) + thrown(method));
             }
         }
         check.same("methods " + got, got.equals(due) ? 1 : 0, 1);
@@ -47,5 +52,14 @@ public final class FaceTest {
             text.append(text.length() == 1 ? "" : ",").append(type);
         }
         return text.append(")").toString();
+    }
+
+    /** What it says it throws, in the document's order. */
+    private static String thrown(Method method) {
+        StringBuilder text = new StringBuilder();
+        for (Class<?> type : method.getExceptionTypes()) {
+            text.append(' ').append(type.getSimpleName());
+        }
+        return text.toString();
     }
 }
